@@ -1059,11 +1059,15 @@ public final class ChipSlots {
         }
     }
 
-    /** The schedule of a step: for each chip the sets of gates that are there, wanted and coming. */
+    /**
+     * The schedule of a step: for each chip the sets of gates that are there, wanted and coming, and
+     * the set of gates that still wait for their sources on their own chips.
+     */
     private static final class Schedule {
         private final int[] available = new int[MOST_CHIPS];
         private final int[] wanted = new int[MOST_CHIPS];
         private final int[] coming = new int[MOST_CHIPS];
+        private int waiting = 0;
         private int taken = 1;
         private int sent = 0;
         private int lastSent = 0;
@@ -1100,50 +1104,47 @@ public final class ChipSlots {
             taken = 1;
             sent = 0;
             lastSent = 0;
+            waiting = plan.all() & ~plan.storing();
             for (int c = 0; c < MOST_CHIPS; c++) {
                 available[c] = 0;
                 wanted[c] = 0;
-                coming[c] = 0;
             }
             for (int g = 0; g < plan.gates; g++) {
-                if ((plan.storing() & bit(g)) != 0) {
-                    add(available, chipIn(places, g), g);
+                int chip = chipIn(places, g);
+                if ((waiting & bit(g)) == 0) {
+                    add(available, chip, g);
                 }
-                markWanted(plan, places, g);
+                markWanted(places, plan.firstOf(g), chip);
+                markWanted(places, plan.secondOf(g), chip);
             }
         }
 
-        /** A gate is wanted on all chips from its own to the farthest readers on both sides. */
-        private void markWanted(Plan plan, int places, int gate) {
-            int own = chipIn(places, gate);
-            int low = own;
-            int high = own;
-            for (int g = 0; g < plan.gates; g++) {
-                if ((plan.sourcesOf(g) & bit(gate)) != 0) {
-                    low = Math.min(low, chipIn(places, g));
-                    high = Math.max(high, chipIn(places, g));
-                }
+        /** A source is wanted on all chips on its way to the reader's chip, and there. */
+        private void markWanted(int places, int source, int readerChip) {
+            if (source == NONE) {
+                return;
             }
-            for (int c = low; c <= high; c++) {
+            int own = chipIn(places, source);
+            int last = Math.max(own, readerChip);
+            for (int c = Math.min(own, readerChip); c <= last; c++) {
                 if (c != own) {
-                    add(wanted, c, gate);
+                    add(wanted, c, source);
                 }
             }
         }
 
         private void settle(Plan plan, int places) {
-            for (int pass = 0; pass < plan.gates; pass++) {
-                boolean changed = false;
+            for (int pass = 0; pass < plan.gates && waiting != 0; pass++) {
+                int before = waiting;
                 for (int g = 0; g < plan.gates; g++) {
                     int chip = chipIn(places, g);
-                    int here = cell(available, chip);
-                    // Inputs and registers have been here since slot 0, whatever their sources.
-                    if ((here & bit(g)) == 0 && (plan.sourcesOf(g) & ~here) == 0) {
+                    int missing = plan.sourcesOf(g) & ~cell(available, chip);
+                    if ((waiting & bit(g)) != 0 && missing == 0) {
                         add(available, chip, g);
-                        changed = true;
+                        waiting &= ~bit(g);
                     }
                 }
-                if (!changed) {
+                if (waiting == before) {
                     break;
                 }
             }

@@ -24,6 +24,7 @@ public final class PromisesTest {
         wiping();
         faults();
         boards();
+        boardsInTurn();
         gates();
         values();
         loops();
@@ -202,6 +203,36 @@ public final class PromisesTest {
         due("5: one chip", x.count(1), 1);
     }
 
+    private static void boardsInTurn() {
+        ChipSlots x = Check.boardOf("B43i0i1i2i3", 4);
+        x.input(1, 2);
+        x.lay(0, 3);
+        Check.writeAll(x, "B11r001r010r021q");
+        due("5: a fault does not touch the board", x.fault(), 15);
+        due("5: nor does a board that fails", x.board(), STATE);
+        due("5: inputs", x.count(5), 15);
+        due("5: chips", x.count(1), 4);
+        due("5: chip of a gate", x.gate(0, 1), 3);
+        due("5: kind of a gate", x.gate(2, 0), 0);
+        due("5: unknown input", x.count(8), 2);
+        Check.writeAll(x, "B11r011r001n01i0");
+        due("5: registers", x.board(), 4);
+        due("5: unknowns are gone", x.count(8), 0);
+        due("5: inputs after it", x.count(5), 8);
+        due("5: registers after it", x.count(6), 3);
+        Check.writeAll(x, "B21i0i1r120r000");
+        due("5: once more", x.board(), 4);
+        due("5: no readers are left", x.gate(1, 6), 0);
+        due("5: readers", x.gate(2, 6), 4);
+        due("5: readers of the first", x.gate(0, 6), 8);
+        due("5: inputs once more", x.count(5), 3);
+        due("5: registers once more", x.count(6), 12);
+        x.input(0, 1);
+        x.step(1);
+        due("5: clocks are told anew", x.count(7), 1 + 8);
+        due("5: pins once more", x.count(3), 1);
+    }
+
     private static void gates() {
         ChipSlots x = Check.boardOf("B41i0n10a201o301x001r111r230", 7);
         int[][] want = {
@@ -246,6 +277,8 @@ public final class PromisesTest {
                 due("6: xor" + of, x.gate(5, 5), xor[a][b]);
             }
         }
+        ChipSlots back = Check.boardOf("B11n01n02n03n04i0", 5);
+        due("6: a chain told backwards", back.count(7), 2 + 8);
         ChipSlots late = Check.boardOf("B11a013n02i0o022", 4);
         late.input(2, 0);
         due("6: gates told before their sources, 0", late.count(7), 2);
@@ -297,6 +330,12 @@ public final class PromisesTest {
         slow.input(0, 1);
         slow.step(2);
         due("7: clock 1 ticks when the count is odd", slow.count(7), 7);
+        ChipSlots both = Check.boardOf("B11i0r001r001", 3);
+        both.input(0, 1);
+        both.step(1);
+        due("7: no clock 1 ticks", both.count(7), 1);
+        both.step(1);
+        due("7: both clocks 1 tick", both.count(7), 7);
         ChipSlots unknown = Check.boardOf(CHAIN, 4);
         unknown.input(0, 2);
         unknown.step(2);
@@ -370,6 +409,7 @@ public final class PromisesTest {
         due("11: undo input", x.undo(), 0);
         due("11: first value", x.gate(0, 5), 0);
         due("11: no more", x.undo(), STATE);
+        unknownsComeBack();
         for (int i = 1; i <= 20; i++) {
             x.step(1);
             due("11: at most 14", x.count(9), Math.min(i, 14));
@@ -390,6 +430,27 @@ public final class PromisesTest {
         due("11: undo the new act", x.undo(), 12);
         due("11: pins again", x.count(3), 2);
         due("11: count again", x.count(4), 32);
+    }
+
+    private static void unknownsComeBack() {
+        ChipSlots x = Check.boardOf("B11i0i0r010", 3);
+        x.input(1, 2);
+        x.step(1);
+        x.keep(1);
+        x.input(1, 1);
+        x.step(1);
+        x.input(1, 0);
+        x.undo();
+        due("11: no unknown comes back", x.count(8), 0);
+        due("11: but the ones", x.count(7), 6);
+        x.undo();
+        x.undo();
+        due("11: unknowns come back", x.count(8), 6);
+        x.input(1, 0);
+        x.step(1);
+        due("26: count", x.again(1), 1);
+        due("26: unknowns", x.count(8), 6);
+        due("26: ones", x.count(7), 0);
     }
 
     private static void aheads() {
@@ -414,6 +475,8 @@ public final class PromisesTest {
         slow.pins(1);
         slow.step(1);
         due("12: clock 1 at an odd count", slow.ahead(1, 1), 1);
+        due("12: once more", slow.ahead(1, 1), 1);
+        due("12: and now", slow.ahead(0, 1), 0);
     }
 
     private static void rounds() {
@@ -449,6 +512,20 @@ public final class PromisesTest {
         due("13: outside in spite of none", five.round(2), OUTSIDE);
         five.step(31);
         due("13: back after 31 steps", five.count(7), 64);
+        ChipSlots sixty = Check.boardOf("B11r050r000r010r020x032n04n07r061", 8);
+        due("13: the longest period, n", sixty.round(0), 0);
+        due("13: the longest period, m", sixty.round(1), 60);
+        ChipSlots late = Check.boardOf("B11r041r091r081r001r021r061r011a015x007n03", 10);
+        due("13: the latest beginning, n", late.round(0), 60);
+        due("13: the latest beginning, m", late.round(1), 6);
+        late.step(1);
+        due("13: one step nearer", late.round(0), 59);
+        ChipSlots later = Check.boardOf("B11r091r021r001r011r051r031r081n06n04o057", 10);
+        due("13: too late", later.round(0), NONE);
+        later.step(1);
+        due("13: still too late", later.round(1), NONE);
+        later.step(1);
+        due("13: in time", later.round(0), 60);
     }
 
     private static void whens() {
@@ -567,6 +644,12 @@ public final class PromisesTest {
         judge(y, 4, 201212432430L, 3);
         y.input(0, 2);
         judge(y, 2, 402430, NONE);
+        y.pins(3);
+        judge(y, 1, 502, NONE);
+        y.lay(3, 0);
+        judge(y, 2, 331502, NONE);
+        judge(y, 3, 601331504, NONE);
+        judge(y, 1, 330, 0);
         ChipSlots slow = Check.boardOf("B11i0r001", 2);
         slow.input(0, 1);
         judge(slow, 2, 101411, 1);
