@@ -231,6 +231,12 @@ public final class PromisesTest {
         x.step(1);
         due("5: clocks are told anew", x.count(7), 1 + 8);
         due("5: pins once more", x.count(3), 1);
+        Check.writeAll(x, "B11i0r000i0");
+        due("5: the fourth", x.board(), 3);
+        due("5: an input reads nothing", x.gate(1, 6), 0);
+        x.input(0, 1);
+        x.step(1);
+        due("5: clock 0 after clock 1", x.count(7), 3);
     }
 
     private static void gates() {
@@ -578,6 +584,11 @@ public final class PromisesTest {
         slotNumbers("a loop sends nothing", Check.boardOf("B21n00n10", 2), 1, 0, NONE);
         slotNumbers("one value for several readers", Check.boardOf("B21i0n10n10a100", 4), 2, 1, 0);
         slotNumbers("there and back", Check.boardOf("B21i0n10n01n12", 4), 4, 3, 2);
+        slotNumbers("the greatest gate", Check.boardOf("B21n19i1i1i1i1i1i1i1i1i0", 10), 2, 1, 9);
+        ChipSlots joined = Check.boardOf("B21i0i0n11", 3);
+        slotNumbers("apart", joined, 2, 1, 1);
+        joined.lay(2, 0);
+        slotNumbers("together", joined, 1, 0, NONE);
         slotNumbers("the last slot alone counts", Check.boardOf("B31i0i0n11n20", 4), 3, 3, 1);
     }
 
@@ -644,6 +655,8 @@ public final class PromisesTest {
         judge(y, 4, 201212432430L, 3);
         y.input(0, 2);
         judge(y, 2, 402430, NONE);
+        y.pins(2);
+        judge(y, 1, 503, NONE);
         y.pins(3);
         judge(y, 1, 502, NONE);
         y.lay(3, 0);
