@@ -237,6 +237,9 @@ public final class PromisesTest {
         x.input(0, 1);
         x.step(1);
         due("5: clock 0 after clock 1", x.count(7), 3);
+        Check.writeAll(x, "B11i0i0i0");
+        due("5: the fifth", x.board(), 3);
+        due("5: no reader is left of a longer board", x.gate(0, 6), 0);
     }
 
     private static void gates() {
