@@ -38,6 +38,7 @@ public final class BoardBoundariesTest {
         untoldSources();
         noFault();
         boardBegins();
+        boardsInTurn();
         boardLeaves();
         boardAnswers();
         noSources();
@@ -415,6 +416,36 @@ public final class BoardBoundariesTest {
         x.input(0, 1);
         x.step(1);
         due("5: clock 1 does not tick in the first step", x.count(7), 1);
+    }
+
+    private static void boardsInTurn() {
+        sentence("in place of the present one");
+        String[] texts = {"B11", "B43i3i2", TEN_INPUTS, "B29r111r100n13x002", "B12r010i0", Scenes.BOARD};
+        for (String first : texts) {
+            for (String second : texts) {
+                for (String third : texts) {
+                    ChipSlots x = new ChipSlots();
+                    for (String text : new String[] {first, second, third}) {
+                        Check.writeAll(x, text);
+                        x.board();
+                    }
+                    ChipSlots fresh = new ChipSlots();
+                    Check.writeAll(fresh, third);
+                    fresh.board();
+                    String name = "5: " + third + " after " + first + " and " + second;
+                    Check.isTrue(name, Scenes.everything(x).equals(Scenes.everything(fresh)));
+                    due(name + ", a step of ones", onesAfterStep(x), onesAfterStep(fresh));
+                }
+            }
+        }
+    }
+
+    private static int onesAfterStep(ChipSlots x) {
+        for (int g = 0; g < x.count(2); g++) {
+            x.input(g, 1);
+        }
+        x.step(1);
+        return x.count(7);
     }
 
     private static void boardLeaves() {

@@ -304,6 +304,16 @@ public final class QuestionBoundariesTest {
         due("17: chips stay", x.gate(1, 1), 2);
         judge(x, 2, 609503, NONE);
         due("17: pins stay", x.count(3), 1);
+        ChipSlots wide = Check.boardOf("B21i0i0i0i0i0i0a101a123a145", 9);
+        judge(wide, 1, 507, NONE);
+        wide.pins(2);
+        judge(wide, 1, 504, NONE);
+        wide.pins(9);
+        judge(wide, 1, 502, NONE);
+        wide.undo();
+        judge(wide, 1, 504, NONE);
+        wide.lay(6, 0);
+        judge(wide, 1, 503, NONE);
         judge(x, 4, 200102420411L, NONE);
         judge(x, 4, 401420101421L, NONE);
     }
