@@ -129,6 +129,8 @@ public final class QuestionBoundariesTest {
         rounds("the longest period", sixty, 0, 60);
         sixty.step(99);
         rounds("the longest period later", sixty, 0, 60);
+        // Found by a search with another program.
+        rounds("late and long", Check.boardOf("B11r041n05r060r001r021r090x075r031o012r080", 10), 30, 60);
         ChipSlots five = Check.boardOf("B11r060r000r010r020r030x042n05", 7);
         rounds("62 steps are too many", five, NONE, NONE);
         // A 1 goes round through four registers, then through three, which takes an even number of steps.
