@@ -6,8 +6,10 @@ import java.nio.file.Files;
 import java.nio.file.Path;
 import java.util.Arrays;
 import java.util.List;
-import java.util.TreeSet;
+import java.util.Map;
 import java.util.Set;
+import java.util.TreeMap;
+import java.util.TreeSet;
 import java.util.regex.Matcher;
 import java.util.regex.Pattern;
 
@@ -30,6 +32,7 @@ public final class LanguageTest {
         nested();
         words(bare(source));
         lengths(source);
+        depths(bare(source));
         Check.finish();
     }
 
@@ -104,6 +107,43 @@ public final class LanguageTest {
             Matcher m = Pattern.compile(word).matcher(source);
             Check.isTrue("the source has " + word, !m.find());
         }
+    }
+
+    /**
+     * Methods of one name in several classes count as one, so the depths are at least the true ones. Rule 8
+     * would allow recursion; there is none.
+     */
+    private static void depths(String source) {
+        Map<String, Set<String>> calls = new TreeMap<>();
+        String head = "^( {4}| {8})[a-z][\\w\\[\\] ]* (\\w+)\\([^)]*\\) \\{$";
+        Matcher method = Pattern.compile("(?ms)" + head + "(.*?)^\\1\\}$").matcher(source);
+        while (method.find()) {
+            calls.computeIfAbsent(method.group(2), name -> new TreeSet<>()).addAll(called(method.group(3)));
+        }
+        Check.isTrue("all public methods are found: " + calls.keySet(), calls.keySet().containsAll(
+            FACE.stream().map(m -> m.replaceAll("^\\w+ |\\(.*", "")).toList()));
+        for (String name : calls.keySet()) {
+            Check.isTrue(name + " goes deeper than eight calls", depth(name, calls, 1) <= 8);
+        }
+    }
+
+    private static Set<String> called(String body) {
+        Set<String> names = new TreeSet<>();
+        Matcher call = Pattern.compile("\\b(\\w+)\\(").matcher(body);
+        while (call.find()) {
+            names.add(call.group(1));
+        }
+        return names;
+    }
+
+    private static int depth(String name, Map<String, Set<String>> calls, int open) {
+        int deepest = open;
+        for (String next : calls.get(name)) {
+            if (calls.containsKey(next) && open <= 8) {
+                deepest = Math.max(deepest, depth(next, calls, open + 1));
+            }
+        }
+        return deepest;
     }
 
     private static void lengths(String source) {
