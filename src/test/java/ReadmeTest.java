@@ -50,7 +50,12 @@ public final class ReadmeTest {
             }
         }
         Check.isTrue("README has examples", !asked.isEmpty());
-        List<Long> got = answers(body.toString());
+        JavaCompiler compiler = ToolProvider.getSystemJavaCompiler();
+        if (compiler == null) {
+            System.out.println("this java has no compiler in it: README's examples are not run");
+            return;
+        }
+        List<Long> got = answers(compiler, body.toString());
         Check.due("answers of the examples", got.size(), told.size());
         for (int i = 0; i < Math.min(got.size(), told.size()); i++) {
             Check.due("README: " + asked.get(i), got.get(i), told.get(i));
@@ -67,14 +72,13 @@ public final class ReadmeTest {
         return result;
     }
 
-    private static List<Long> answers(String body) throws Exception {
+    private static List<Long> answers(JavaCompiler compiler, String body) throws Exception {
         Path folder = Files.createTempDirectory("readme");
         try {
             Path source = folder.resolve(EXAMPLE + ".java");
             Files.writeString(source, "import java.util.*;\n"
                 + "public final class " + EXAMPLE + " implements java.util.function.Supplier<List<Long>> {\n"
                 + "public List<Long> get() {\nList<Long> got = new ArrayList<>();\n" + body + "return got;\n}\n}\n");
-            JavaCompiler compiler = ToolProvider.getSystemJavaCompiler();
             int exit = compiler.run(null, null, null, "-nowarn", "-classpath", System.getProperty("java.class.path"),
                 "-d", folder.toString(), source.toString());
             Check.due("README's examples compile", exit, 0);
